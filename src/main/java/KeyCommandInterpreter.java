@@ -300,18 +300,14 @@ public final class KeyCommandInterpreter {
             int next = waiting.removeLast();
             if (next == END_OF_MACRO) {
                 playing--;
-            } else {
-                pending.add(next);
-                settle();
+                continue;
             }
-        }
-    }
-
-    private void settle() {
-        if (isExtensible()) {
-            remaining = timeout;
-        } else {
-            releasePending();
+            pending.add(next);
+            if (isExtensible()) {
+                remaining = timeout;
+            } else {
+                releasePending();
+            }
         }
     }
 
@@ -447,23 +443,23 @@ public final class KeyCommandInterpreter {
     }
 
     private static boolean isKey(int key) {
-        return isBetween(key, 0, KEY_COUNT - 1);
+        return key >= 0 && key < KEY_COUNT;
     }
 
     private boolean isFlag(int flag) {
-        return isBetween(flag, 0, flags.length - 1);
+        return flag >= 0 && flag < flags.length;
     }
 
     private boolean isContext(int context) {
-        return isBetween(context, 0, contexts.size() - 1);
+        return context >= 0 && context < contexts.size();
     }
 
     private boolean isMacro(int macro) {
-        return isBetween(macro, 0, macros.size() - 1);
+        return macro >= 0 && macro < macros.size();
     }
 
     private boolean isBinding(int context, int number) {
-        return isContext(context) && isBetween(number, 0, contexts.get(context).bindings.size() - 1);
+        return isContext(context) && number >= 0 && number < contexts.get(context).bindings.size();
     }
 
     private boolean isCondition(int flag, int value) {
@@ -473,7 +469,7 @@ public final class KeyCommandInterpreter {
     private boolean isAction(int action, int argument) {
         switch (action) {
             case FIRE:
-                return isBetween(argument, 0, COMMAND_COUNT - 1);
+                return argument >= 0 && argument < COMMAND_COUNT;
             case PLAY:
                 return isMacro(argument);
             case PUSH:
