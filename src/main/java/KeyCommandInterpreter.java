@@ -35,8 +35,9 @@ public final class KeyCommandInterpreter {
     private static final int NO_MACRO = -1;
     private static final int END_OF_MACRO = -1;
 
-    // Keys only move between the pending sequence and the waiting row, and a call brings in no
-    // others than one that is pressed and those of the macros played, each with its end mark.
+    // Keys only move between the pending sequence (three at most while it waits) and the waiting
+    // row; a call brings in one that is pressed and those of the macros played, each macro with
+    // its end mark.
     private static final int WAITING_LIMIT = SEQUENCE_LIMIT + PLAY_LIMIT * (MACRO_LIMIT + 1);
 
     // Every fall back uses up a key and returns at most three, so about a thousand steps are the
@@ -70,7 +71,6 @@ public final class KeyCommandInterpreter {
             contexts.add(new Context(context));
         }
         stack = new ArrayList<>();
-        pushContext(0);
         flags = new int[FLAG_COUNT];
         reports = new ReportLog();
         timeout = INITIAL_TIMEOUT;
@@ -78,6 +78,7 @@ public final class KeyCommandInterpreter {
         recorded = NO_MACRO;
         playing = 0;
         played = 0;
+        pushContext(0);
     }
 
     // ---- bindings
