@@ -9,8 +9,10 @@ import java.util.Random;
  * recursion, on lists that may grow. The seeds are fixed, so every run is the same each time.
  */
 public final class ModelTest {
-    private static final int RUNS = 1500;
-    private static final int CALLS = 512;
+    private static final int RUNS = 20000;
+    /** With the calls that read all at the end, an object makes less than 512. */
+    private static final int MOST_CALLS = 290;
+    private static final int FIRST_CALLS = 90;
 
     public static void main(String[] args) {
         int[] reached = new int[Model.RARE_EVENTS];
@@ -39,17 +41,16 @@ public final class ModelTest {
         int keys = 2 + random.nextInt(random.nextBoolean() ? 2 : 11);
         int macroBias = random.nextInt(60);
         List<String> calls = new ArrayList<>();
-        for (int call = 0; call < CALLS; call++) {
-            int kind = call < 120 ? random.nextInt(50) : random.nextInt(100);
-            String difference = randomCall(random, kind, keys, macroBias, object, model, calls);
-            if (difference == null) {
-                difference = stateDifference(object, model);
-            }
-            if (difference != null) {
-                return difference + " after " + calls;
-            }
+        int length = 1 + random.nextInt(MOST_CALLS);
+        String difference = null;
+        for (int call = 0; call < length && difference == null; call++) {
+            int kind = call < FIRST_CALLS ? random.nextInt(50) : random.nextInt(100);
+            difference = randomCall(random, kind, keys, macroBias, object, model, calls);
         }
-        return null;
+        if (difference == null) {
+            difference = stateDifference(object, model);
+        }
+        return difference == null ? null : difference + " after " + calls;
     }
 
     private static String randomCall(Random random, int kind, int keys, int macroBias,

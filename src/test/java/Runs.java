@@ -9,18 +9,40 @@ import java.util.regex.Pattern;
  */
 final class Runs {
     private static final Pattern CALL = Pattern.compile("\\s*(\\w+)\\(([-\\d, ]*)\\)\\s*=\\s*(-?\\d+)\\s*");
+    private static final int CALLS_OF_ONE_OBJECT = 512;
     private int wrong = 0;
 
     /** Runs the calls of all parts on one new object. */
     void check(String name, String... parts) {
+        reach(name, parts);
+    }
+
+    /** The same; the object that has made the calls is handed out, for what is not told as a run. */
+    KeyCommandInterpreter reach(String name, String... parts) {
         KeyCommandInterpreter object = new KeyCommandInterpreter();
+        int calls = 0;
         for (String part : parts) {
+            calls += count(part);
             for (String call : part.split(";")) {
                 if (!call.isBlank()) {
                     checkCall(name, object, call);
                 }
             }
         }
+        // What later calls answer is free, so a test of them would test nothing that is promised.
+        due(name + ": a run of " + calls + " calls is short enough", calls <= CALLS_OF_ONE_OBJECT, true);
+        return object;
+    }
+
+    /** The answer of a call that is told without it, as "press(3)". */
+    static int answer(KeyCommandInterpreter object, String call) {
+        int open = call.indexOf('(');
+        return invoke(object, call.substring(0, open), call.substring(open + 1, call.length() - 1).trim());
+    }
+
+    /** The number of calls in a part. */
+    static int count(String part) {
+        return (int) part.chars().filter(sign -> sign == '=').count();
     }
 
     /** Compares an answer that is not told as a call in a run. */
