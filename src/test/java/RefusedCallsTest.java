@@ -40,10 +40,13 @@ public final class RefusedCallsTest {
         + Calls.boundIf(4, 0, 2, 0, "3", "PUSH 2") + "press(2) = 0; press(0) = 0; tick(4) = 0; setTimeout(3) = 10;"
         + Calls.appended("5 4");
 
+    /** A macro is being recorded and has room for more keys. */
+    private static final String RECORDING = "startRecording(1) = 0;" + Calls.pressed(1, "8 9");
+
     public static void main(String[] args) {
         Runs runs = new Runs();
         Set<String> seen = new TreeSet<>();
-        for (String state : List.of(NEW, FULL, MIDDLE)) {
+        for (String state : List.of(NEW, FULL, MIDDLE, RECORDING)) {
             List<String> refused = refusedCalls(runs, state, seen);
             for (List<String> use : uses()) {
                 compare(runs, state, refused, use);
